@@ -19,6 +19,8 @@ public final class CommitTest {
         faultOrder();
         faultByStandard();
         crowd();
+        allOthers();
+        references();
         refusedCommit();
         waiting();
         confirm();
@@ -127,6 +129,8 @@ public final class CommitTest {
         x.lock(1, true);
         x.set(1, 0, 0, 0, 2);
         Expect.same("for who has the lock, too", x.commit(1, 0), LOCKED);
+        x.tick();
+        Expect.same("with one tick left, too", x.commit(1, 0), LOCKED);
         trouble(x, 0, 0, 0, 0);
         x.confirm();
         Expect.same("then it clashes", x.commit(1, 0), CLASH);
@@ -416,6 +420,63 @@ public final class CommitTest {
         x.commit(0, 0);
         Expect.same("5 and 1 are 5", x.commit(1, 0), DONE);
         Expect.same("5 entries", x.figure(12), 5);
+        x.begin(0);
+        x.entry(0, 2, 60, true);
+        x.entry(1, 2, 70, true);
+        x.commit(0, 0);
+        Expect.same("7 entries", x.commit(1, 0), INVALID);
+        trouble(x, 5, 2, NONE, NONE);
+    }
+
+    private static void allOthers() {
+        Expect.about("13 commit and 17 diff, 12 keys");
+        SettingsDesk x = desk();
+        for (int key = 1; key <= 6; key++) {
+            x.entry(0, 1, key, true);
+        }
+        x.commit(0, 0);
+        x.begin(1);
+        for (int key = 1; key <= 6; key++) {
+            x.entry(0, 1, key, false);
+        }
+        for (int key = 11; key <= 16; key++) {
+            x.entry(0, 1, key, true);
+            x.set(0, 1, key, 1, 4);
+        }
+        x.commit(0, 0);
+        for (int k = 0; k < 12; k++) {
+            difference(x, k, 1, k < 6 ? k + 1 : k + 5, NONE, k < 6 ? 1 : 2);
+        }
+        Expect.fails("no more", Expect.INDEX, () -> x.diff(1, 12, 0));
+        Expect.same("all as in the base", x.commit(1, 0), DONE);
+        Expect.same("so running stays", x.figure(0), 2);
+        Expect.same("with the last of them", x.get(1, 1, 16, 1), 4);
+    }
+
+    private static void references() {
+        Expect.about("13 commit, references");
+        SettingsDesk x = new SettingsDesk();
+        x.list();
+        x.list();
+        x.leaf(1, 1, 1, 0, 2);
+        x.leaf(1, 1, 2, 0, 0);
+        x.ready();
+        x.begin(0);
+        x.entry(0, 1, 4, true);
+        x.entry(0, 2, 5, true);
+        x.set(0, 1, 4, 0, 5);
+        x.set(0, 1, 4, 1, 4);
+        Expect.same("keys of the other list", x.commit(0, 0), INVALID);
+        trouble(x, 2, 1, 4, 0);
+        x.set(0, 1, 4, 0, 4);
+        Expect.same("the second one", x.commit(0, 0), INVALID);
+        trouble(x, 2, 1, 4, 1);
+        x.set(0, 1, 4, 1, 5);
+        Expect.same("an entry to itself", x.commit(0, 0), DONE);
+        x.entry(0, 1, 3, true);
+        x.set(0, 1, 3, 0, 4);
+        Expect.same("a unique reference", x.commit(0, 0), INVALID);
+        trouble(x, 3, 1, 4, 0);
     }
 
     private static void refusedCommit() {
