@@ -618,9 +618,8 @@ public final class SettingsDesk {
 
         void moveRow(int from, int to) {
             keys[to] = keys[from];
-            for (int leaf = 0; leaf < LEAVES; leaf++) {
-                copyLeaf(to, leaf, this, from);
-            }
+            given[to] = given[from];
+            System.arraycopy(values, from * LEAVES, values, to * LEAVES, LEAVES);
         }
 
         void copyLeaf(int row, int leaf, Settings other, int otherRow) {

@@ -1,3 +1,5 @@
+import java.util.List;
+
 /** Counts what a test finds wrong, and ends the test with exit code 1 if there was anything. */
 final class Expect {
     interface Call {
@@ -54,6 +56,20 @@ final class Expect {
             return;
         }
         tell(call + " threw nothing, due is " + due.getName());
+    }
+
+    /** Of two rows of answers the first that differs is told. */
+    static void alike(String call, List<String> due, List<String> got) {
+        checked++;
+        for (int i = 0; i < due.size() && i < got.size(); i++) {
+            if (!due.get(i).equals(got.get(i))) {
+                tell(call + " changed something: " + got.get(i) + ", without it " + due.get(i));
+                return;
+            }
+        }
+        if (due.size() != got.size()) {
+            tell(call + " changed something: how many answers there are");
+        }
     }
 
     static void tell(String what) {

@@ -218,6 +218,10 @@ final class Model {
         return count;
     }
 
+    boolean hasBegun(int s) {
+        return !noSession(s) && candidates[s] != null;
+    }
+
     boolean entry(int s, int list, int key, boolean there) {
         state(off || !ready);
         index(noSession(s) || noList(list));

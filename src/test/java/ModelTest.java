@@ -4,8 +4,10 @@ import java.util.function.IntSupplier;
 
 /** Long runs of calls, each answer compared with the model's; the same runs every time. */
 public final class ModelTest {
-    private static final int RUNS = 2500;
-    private static final int CALLS = 480;
+    private static final int RUNS = 4000;
+    /** What an object answers beyond this many calls is free. */
+    private static final int CALLS = 512;
+    private static final int FIGURES = 17;
 
     /** What happened over all runs, so that a run of calls that reaches nothing does not pass. */
     private static final Map<String, Integer> seen = new TreeMap<>();
@@ -13,6 +15,10 @@ public final class ModelTest {
     private static long seed = 20261115L;
     private static int keys = 6;
     private static int lists = 4;
+    /** Runs without faults of single entries, and with many entries, come to crowded lists. */
+    private static boolean easy = false;
+    private static boolean crowd = false;
+    private static int calls = 0;
 
     public static void main(String[] args) {
         for (int run = 0; run < RUNS; run++) {
@@ -50,15 +56,20 @@ public final class ModelTest {
     private static boolean agrees() {
         SettingsDesk x = new SettingsDesk();
         Model m = new Model();
-        keys = chance(40) ? 12 : 1 + below(7);
-        lists = 1 + below(4);
+        crowd = chance(25);
+        easy = crowd || chance(25);
+        keys = crowd ? 14 : 1 + below(10);
+        lists = crowd ? 2 : 1 + below(4);
+        calls = 0;
         boolean same = true;
-        for (int call = 0; call < CALLS && same; call++) {
-            if (call < 30) {
-                same = schemaCall(x, m, call);
-            } else {
-                same = editCall(x, m) && figuresAgree(x, m);
-            }
+        for (int call = 0; call < 30 && same; call++) {
+            same = schemaCall(x, m, call);
+        }
+        while (same && calls < CALLS - FIGURES) {
+            same = chance(30) ? figureAgrees(x, m, near(0, 14)) : editCall(x, m);
+        }
+        for (int what = -1; what < FIGURES - 1 && same; what++) {
+            same = figureAgrees(x, m, what);
         }
         return same;
     }
@@ -74,10 +85,10 @@ public final class ModelTest {
             return compare("ready()", () -> bit(x.ready()), () -> bit(m.ready()));
         }
         if (call < 18) {
-            int kind = near(0, 1);
+            int kind = easy && chance(90) ? 0 : near(0, 1);
             int low = kind == 1 ? near(0, lists - 1) : near(-1, 1);
             int high = near(1, 9);
-            int flags = chance(80) ? 0 : near(0, 3);
+            int flags = easy || chance(80) ? 0 : near(0, 3);
             return compare("leaf(" + list + ", " + kind + ", " + low + ", " + high + ", " + flags + ")",
                     () -> x.leaf(list, kind, low, high, flags),
                     () -> m.leaf(list, kind, low, high, flags));
@@ -91,7 +102,7 @@ public final class ModelTest {
                     }, () -> m.standard(list, leaf, value));
         }
         boolean there = chance(50);
-        return call % 2 == 0 || compare(
+        return call % 2 == 0 || easy || compare(
                 "rule(" + list + ", " + leaf + ", " + value + ", " + other + ", " + there + ")",
                 () -> x.rule(list, leaf, value, other, there),
                 () -> m.rule(list, leaf, value, other, there));
@@ -99,13 +110,16 @@ public final class ModelTest {
 
     private static boolean editCall(SettingsDesk x, Model m) {
         int s = near(0, 2);
-        int list = near(0, lists - 1);
+        int list = chance(15) ? 0 : near(0, lists - 1);
         int key = list == 0 && chance(97) ? 0 : aKey();
         int leaf = near(0, chance(50) ? 1 : 3);
         int value = chance(50) ? near(0, 4) : aKey();
-        boolean on = chance(75);
+        boolean on = chance(crowd ? 95 : 75);
         int pick = below(100);
-        if (pick < 22) {
+        if (!m.hasBegun(s) && chance(50)) {
+            return compare("begin(" + s + ")", () -> x.begin(s), () -> m.begin(s));
+        }
+        if (pick < 22 && (list > 0 || chance(5))) {
             return compare("entry(" + s + ", " + list + ", " + key + ", " + on + ")",
                     () -> bit(x.entry(s, list, key, on)), () -> bit(m.entry(s, list, key, on)));
         }
@@ -131,19 +145,25 @@ public final class ModelTest {
     private static boolean sessionCall(SettingsDesk x, Model m, int s) {
         int pick = below(100);
         if (pick < 55) {
-            int ticks = chance(70) ? 0 : chance(5) ? near(0, 1000) : near(0, 3);
-            return compare("commit(" + s + ", " + ticks + ")",
+            int ticks = chance(crowd ? 95 : 70) ? 0 : chance(5) ? near(0, 1000) : near(0, 3);
+            int refused = refusedCommits();
+            boolean same = compare("commit(" + s + ", " + ticks + ")",
                     () -> x.commit(s, ticks), () -> m.commit(s, ticks));
+            if (refusedCommits() > refused) {
+                countTrouble(m);
+            }
+            count("older " + m.figure(1));
+            return same;
         }
-        if (pick < 85) {
+        if (pick < (crowd ? 60 : 72)) {
             return compare("begin(" + s + ")", () -> x.begin(s), () -> m.begin(s));
         }
-        if (pick < 93) {
+        if (pick < (crowd ? 65 : 90)) {
             int n = chance(80) ? near(0, 2) : near(0, 8);
             return compare("rollback(" + s + ", " + n + ")",
                     () -> x.rollback(s, n), () -> m.rollback(s, n));
         }
-        boolean takes = chance(30);
+        boolean takes = chance(crowd ? 5 : 30);
         return compare("lock(" + s + ", " + takes + ")",
                 () -> bit(x.lock(s, takes)), () -> bit(m.lock(s, takes)));
     }
@@ -175,20 +195,23 @@ public final class ModelTest {
         return compare("list()", x::list, m::list);
     }
 
-    private static boolean figuresAgree(SettingsDesk x, Model m) {
-        for (int what = -1; what <= 15; what++) {
-            int asked = what;
-            if (!compare("figure(" + what + ")", () -> x.figure(asked), () -> m.figure(asked))) {
-                return false;
-            }
+    private static boolean figureAgrees(SettingsDesk x, Model m, int what) {
+        return compare("figure(" + what + ")", () -> x.figure(what), () -> m.figure(what));
+    }
+
+    private static int refusedCommits() {
+        return seen.getOrDefault("commit 1", 0) + seen.getOrDefault("commit 2", 0);
+    }
+
+    private static void countTrouble(Model m) {
+        count("fault " + m.figure(5));
+        if (m.figure(5) == 0) {
+            count(m.figure(8) < 0 ? "clash of an entry" : "clash of a leaf");
         }
-        count("fault " + x.figure(5));
-        count(x.figure(8) < 0 && x.figure(5) == 0 ? "clash of an entry" : "clash of a leaf");
-        count("older " + x.figure(1));
-        return true;
     }
 
     private static boolean compare(String call, IntSupplier desk, IntSupplier model) {
+        calls++;
         String got = answer(desk);
         String due = answer(model);
         count(call.substring(0, call.indexOf('(')) + " " + due);
