@@ -622,11 +622,10 @@ public final class SettingsDesk {
             System.arraycopy(values, from * LEAVES, values, to * LEAVES, LEAVES);
         }
 
+        /** For a row that was just added, and so has nothing set yet. */
         void copyLeaf(int row, int leaf, Settings other, int otherRow) {
             if (other.isGiven(otherRow, leaf)) {
                 give(row, leaf, other.valueAt(otherRow, leaf));
-            } else {
-                drop(row, leaf);
             }
         }
 

@@ -15,6 +15,11 @@ final class Desks {
         x.rule(1, 0, 4, 2, true);
     }
 
+    static void openToFail(SettingsDesk x) {
+        open(x);
+        x.cut(5);
+    }
+
     static void openWithoutPower(SettingsDesk x) {
         open(x);
         x.cut(0);
@@ -55,6 +60,8 @@ final class Desks {
         x.set(0, 0, 0, 0, 6);
         x.commit(0, 5);
         x.lock(1, true);
+        x.unset(0, 0, 0, 0);
+        x.entry(0, 2, 50, true);
         x.entry(0, 1, 3, true);
         x.set(0, 1, 3, 2, 50);
         x.entry(1, 2, 2, true);

@@ -21,6 +21,9 @@ public final class EdgeTest {
         entryIsEmpty();
         entryKeepsOthers();
         setInPlace();
+        setAndUnsetAgain();
+        eachLeafIsAChange();
+        nothingLeftOfAnEntry();
         getOfEachSet();
         lockOfEachSession();
         commitTicks();
@@ -31,6 +34,7 @@ public final class EdgeTest {
         rollbackWhileWaiting();
         diffAtMost();
         diffKinds();
+        diffOfNeighbours();
         saveWhileWaiting();
         cutCountsPages();
         cutFarAway();
@@ -257,6 +261,84 @@ public final class EdgeTest {
         Expect.fails("another candidate", Expect.UNSUPPORTED, () -> x.get(0, 0, 0, 0));
     }
 
+    private static void setAndUnsetAgain() {
+        Expect.about("9 set, 10 unset, it is as it was");
+        for (int leaf = 0; leaf < 4; leaf++) {
+            setAndUnset(0, 0, leaf);
+            setAndUnset(1, 1, leaf);
+        }
+    }
+
+    private static void setAndUnset(int list, int key, int leaf) {
+        SettingsDesk x = wide();
+        x.entry(0, 1, 1, true);
+        x.commit(0, 0);
+        x.save();
+        x.begin(1);
+        x.set(0, list, key, leaf, 5);
+        x.unset(0, list, key, leaf);
+        Expect.fails("no difference", Expect.INDEX, () -> x.diff(0, 0, 0));
+        Expect.same("committed", x.commit(0, 9), DONE);
+        Expect.same("no change but the one before", x.figure(0), 1);
+        x.set(0, list, key, leaf, 6);
+        x.commit(0, 0);
+        x.unset(0, list, key, leaf);
+        x.commit(0, 0);
+        x.set(1, list, key, leaf, 7);
+        Expect.same("running is the base again", x.commit(1, 0), DONE);
+        x.unset(1, list, key, leaf);
+        x.commit(1, 0);
+        Expect.same("four changes more", x.figure(0), 5);
+        x.cut(0);
+        x.reboot();
+        Expect.same("none to the saved set, which is the same", x.figure(0), 5);
+    }
+
+    private static void eachLeafIsAChange() {
+        Expect.about("13 commit, a change of one leaf alone");
+        SettingsDesk x = wide();
+        int changes = 0;
+        for (int list = 0; list <= 3; list++) {
+            int key = list == 0 ? 0 : 50;
+            if (list > 0) {
+                x.entry(0, list, key, true);
+                x.commit(0, 0);
+                changes++;
+            }
+            for (int leaf = 0; leaf < 4; leaf++) {
+                x.set(0, list, key, leaf, 0);
+                Expect.same("set to 0", x.commit(0, 0), DONE);
+                Expect.same("is a change", x.figure(0), changes + 1);
+                x.set(0, list, key, leaf, 9);
+                Expect.same("set to 9", x.commit(0, 0), DONE);
+                Expect.same("is a change", x.figure(0), changes + 2);
+                Expect.yes("not set", x.unset(0, list, key, leaf));
+                Expect.same("not set", x.commit(0, 0), DONE);
+                Expect.same("is a change", x.figure(0), changes + 3);
+                changes += 3;
+            }
+        }
+    }
+
+    private static void nothingLeftOfAnEntry() {
+        Expect.about("8 entry, none any more");
+        SettingsDesk x = wide();
+        x.entry(0, 1, 5, true);
+        x.set(0, 1, 5, 0, 3);
+        x.entry(0, 1, 5, false);
+        Expect.fails("no difference", Expect.INDEX, () -> x.diff(0, 0, 0));
+        Expect.same("no change", x.commit(0, 0), DONE);
+        Expect.same("none at all", x.figure(0), 0);
+        x.entry(0, 1, 5, true);
+        x.set(0, 1, 5, 0, 3);
+        x.commit(0, 0);
+        x.entry(0, 1, 5, false);
+        x.commit(0, 0);
+        x.cut(0);
+        x.reboot();
+        Expect.same("the empty set again, as it was saved", x.figure(0), 2);
+    }
+
     private static void getOfEachSet() {
         Expect.about("11 get, which 0 .. 4");
         SettingsDesk x = wide();
@@ -464,6 +546,27 @@ public final class EdgeTest {
         Expect.same("an entry without settings", x.diff(1, 3, 3), 1);
         Expect.same("has no leaf", x.diff(1, 3, 2), NONE);
         Expect.fails("and none behind it", Expect.INDEX, () -> x.diff(1, 4, 0));
+    }
+
+    private static void diffOfNeighbours() {
+        Expect.about("17 diff, of entries side by side");
+        SettingsDesk x = wide();
+        for (int key = 1; key <= 3; key++) {
+            x.entry(0, 1, key, true);
+            for (int leaf = 0; leaf < 4; leaf++) {
+                x.set(0, 1, key, leaf, key);
+            }
+        }
+        x.commit(0, 0);
+        for (int key = 1; key <= 3; key++) {
+            for (int leaf = 0; leaf < 4; leaf++) {
+                x.begin(1);
+                x.set(1, 1, key, leaf, 9);
+                Expect.same("its key", x.diff(1, 0, 1), key);
+                Expect.same("its leaf", x.diff(1, 0, 2), leaf);
+                Expect.fails("it alone", Expect.INDEX, () -> x.diff(1, 1, 0));
+            }
+        }
     }
 
     private static void saveWhileWaiting() {

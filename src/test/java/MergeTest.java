@@ -27,19 +27,22 @@ public final class MergeTest {
         firstClash();
         entryBeforeLeaves();
         twoKeysAlike();
+        mergedBesideAClash();
+        manyKeys();
         clashLeavesTheBase();
         Expect.end();
     }
 
-    /** The root and lists 1 to 3 have two numbers each; the sessions have begun. */
+    /** The root and lists 1 to 3 have four numbers each; the sessions have begun. */
     private static SettingsDesk desk() {
         SettingsDesk x = new SettingsDesk();
         for (int list = 0; list <= 3; list++) {
             if (list > 0) {
                 x.list();
             }
-            x.leaf(list, 0, 0, 9, 0);
-            x.leaf(list, 0, 0, 9, 0);
+            for (int leaf = 0; leaf < 4; leaf++) {
+                x.leaf(list, 0, 0, 9, 0);
+            }
         }
         x.ready();
         for (int s = 0; s <= 2; s++) {
@@ -75,60 +78,60 @@ public final class MergeTest {
     }
 
     /** Session 1 comes to have this base and this candidate, and the running set to be this. */
-    private static SettingsDesk prepared(int list, int key, char base, char candidate,
-            char running) {
+    private static SettingsDesk prepared(int list, int key, int leaf, String states) {
         SettingsDesk x = desk();
-        make(x, 0, list, key, 1, base);
+        make(x, 0, list, key, leaf, states.charAt(0));
         x.commit(0, 0);
         x.begin(1);
-        make(x, 0, list, key, 1, running);
+        make(x, 0, list, key, leaf, states.charAt(2));
         x.commit(0, 0);
-        make(x, 1, list, key, 1, candidate);
+        make(x, 1, list, key, leaf, states.charAt(1));
         return x;
     }
 
     private static void oneEntry() {
-        for (int b = 0; b < 4; b++) {
-            for (int c = 0; c < 4; c++) {
-                for (int r = 0; r < 4; r++) {
-                    Expect.about("Terms, merge: base " + STATES.charAt(b) + " candidate "
-                            + STATES.charAt(c) + " running " + STATES.charAt(r));
-                    SettingsDesk x = prepared(2, 100, STATES.charAt(b), STATES.charAt(c),
-                            STATES.charAt(r));
-                    merged(x, STATES.charAt(r), OUTCOMES[b][c].charAt(r), 2, 100);
+        for (int leaf = 0; leaf < 4; leaf++) {
+            allCases(2, 100, leaf, 0);
+        }
+    }
+
+    private static void theRoot() {
+        for (int leaf = 0; leaf < 4; leaf++) {
+            allCases(0, 0, leaf, 1);
+        }
+    }
+
+    private static void allCases(int list, int key, int leaf, int from) {
+        for (int b = from; b < 4; b++) {
+            for (int c = from; c < 4; c++) {
+                for (int r = from; r < 4; r++) {
+                    String states = "" + STATES.charAt(b) + STATES.charAt(c) + STATES.charAt(r);
+                    Expect.about("Terms, merge of list " + list + ", leaf " + leaf
+                            + ", base, candidate and running " + states);
+                    SettingsDesk x = prepared(list, key, leaf, states);
+                    merged(x, list, key, leaf, states.charAt(2), OUTCOMES[b][c].charAt(r));
                 }
             }
         }
     }
 
-    private static void merged(SettingsDesk x, char running, char due, int list, int key) {
+    private static void merged(SettingsDesk x, int list, int key, int leaf, char running,
+            char due) {
         int changes = x.figure(0);
         boolean clash = due == 'E' || due == 'L';
         Expect.same("commit", x.commit(1, 0), clash ? CLASH : DONE);
         char now = clash ? running : due;
         if (clash) {
-            trouble(x, list, key, due == 'E' ? NONE : 1);
+            trouble(x, list, key, due == 'E' ? NONE : leaf);
         } else {
             Expect.fails("the candidate is the outcome", Expect.INDEX, () -> x.diff(1, 0, 0));
         }
         Expect.same("entries", x.figure(10 + list), now == '-' ? 0 : 1);
-        Expect.same("the setting", seen(x, 3, list, key, 1), now == '-' ? '.' : now);
-        Expect.same("the other leaf", seen(x, 3, list, key, 0), '.');
-        Expect.same("changes", x.figure(0) - changes, now == running ? 0 : 1);
-    }
-
-    private static void theRoot() {
-        for (int b = 1; b < 4; b++) {
-            for (int c = 1; c < 4; c++) {
-                for (int r = 1; r < 4; r++) {
-                    Expect.about("Terms, merge of the root: base " + STATES.charAt(b)
-                            + " candidate " + STATES.charAt(c) + " running " + STATES.charAt(r));
-                    SettingsDesk x = prepared(0, 0, STATES.charAt(b), STATES.charAt(c),
-                            STATES.charAt(r));
-                    merged(x, STATES.charAt(r), OUTCOMES[b][c].charAt(r), 0, 0);
-                }
-            }
+        for (int other = 0; other < 4; other++) {
+            Expect.same("leaf " + other, seen(x, 3, list, key, other),
+                    other == leaf && now != '-' ? now : '.');
         }
+        Expect.same("changes", x.figure(0) - changes, now == running ? 0 : 1);
     }
 
     /** An entry that all three have: its leaves are merged each by itself. */
@@ -274,6 +277,69 @@ public final class MergeTest {
         }
         Expect.same("entries of list 1", x.figure(11), 2);
         Expect.same("entries of list 2", x.figure(12), 2);
+    }
+
+    private static void mergedBesideAClash() {
+        Expect.about("Terms, merge: an entry merged by leaves, a clash in the next");
+        for (int leaf = 0; leaf < 4; leaf++) {
+            SettingsDesk x = desk();
+            make(x, 0, 1, 1, 0, '1');
+            make(x, 0, 1, 2, leaf, '1');
+            x.commit(0, 0);
+            x.begin(1);
+            make(x, 0, 1, 1, 2, '1');
+            make(x, 0, 1, 2, leaf, '2');
+            x.commit(0, 0);
+            make(x, 1, 1, 1, 3, '2');
+            x.set(1, 1, 2, leaf, 3);
+            Expect.same("commit", x.commit(1, 0), CLASH);
+            trouble(x, 1, 2, leaf);
+            x.set(1, 1, 2, leaf, 1);
+            Expect.same("without the clash", x.commit(1, 0), DONE);
+            Expect.same("as in running", seen(x, 3, 1, 2, leaf), '2');
+            String due = "1.12";
+            for (int other = 0; other < 4; other++) {
+                Expect.same("merged", seen(x, 3, 1, 1, other), due.charAt(other));
+            }
+        }
+    }
+
+    /** Base, candidate and running have 6 entries each with keys of their own. */
+    private static void manyKeys() {
+        Expect.about("Terms, merge: 18 keys in a list");
+        SettingsDesk x = desk();
+        replaceAll(x, 0, 30, 1);
+        x.commit(0, 0);
+        x.begin(1);
+        x.begin(2);
+        replaceAll(x, 0, 1, 2);
+        x.commit(0, 0);
+        Expect.same("a candidate that is its base", x.commit(2, 0), DONE);
+        Expect.same("no change more", x.figure(0), 2);
+        Expect.same("the last key", x.get(2, 3, 17, 0), 2);
+        replaceAll(x, 1, 1, 3);
+        Expect.same("12 are left", x.commit(1, 0), SettingsDesk.INVALID);
+        Expect.same("the fault", x.figure(5), 5);
+        Expect.same("its list", x.figure(6), 3);
+        for (int i = 5; i >= 0; i--) {
+            Expect.same("one less is not enough", x.commit(1, 0), SettingsDesk.INVALID);
+            x.entry(1, 3, 3 + 3 * i, false);
+        }
+        Expect.same("6 are left", x.commit(1, 0), DONE);
+        for (int i = 0; i < 6; i++) {
+            Expect.same("as in running", x.get(1, 3, 2 + 3 * i, 0), 2);
+        }
+    }
+
+    /** Takes away the 6 entries of list 3 from the key before on, and makes 6 others. */
+    private static void replaceAll(SettingsDesk x, int s, int before, int first) {
+        for (int i = 0; i < 6; i++) {
+            x.entry(s, 3, before + 3 * i, false);
+        }
+        for (int i = 0; i < 6; i++) {
+            x.entry(s, 3, first + 3 * i, true);
+            x.set(s, 3, first + 3 * i, 0, first);
+        }
     }
 
     private static void clashLeavesTheBase() {

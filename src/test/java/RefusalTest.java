@@ -54,6 +54,7 @@ public final class RefusalTest {
     private static void whileReadyAlone(String what, Twins.Calls call) {
         Twins.refuse(what + ", new", x -> { }, call, Expect.STATE);
         Twins.refuse(what + ", not ready", Desks::open, call, Expect.STATE);
+        Twins.refuse(what + ", not ready and to fail", Desks::openToFail, call, Expect.STATE);
         Twins.refuse(what + ", off", Desks::withoutPower, call, Expect.STATE);
         Twins.refuse(what + ", off and not ready", Desks::openWithoutPower, call,
                 Expect.STATE);
@@ -522,8 +523,8 @@ public final class RefusalTest {
             Twins.refuse("session " + s, Desks::busy, x -> x.diff(s, 0, 0), Expect.INDEX);
         }
         Twins.refuse("not begun", Desks::busy, x -> x.diff(2, 0, 0), Expect.STATE);
-        // Candidate 0 differs by an entry of list 1 and its reference.
-        for (int k : new int[] {-1, 2, 3, LOWEST, HIGHEST}) {
+        // Candidate 0 differs by the root's leaf, an entry of list 1, its reference, one of list 2.
+        for (int k : new int[] {-1, 4, 5, LOWEST, HIGHEST}) {
             for (int what = 0; what <= 3; what++) {
                 int asked = what;
                 Twins.refuse("k " + k, Desks::busy, x -> x.diff(0, k, asked),
@@ -531,7 +532,7 @@ public final class RefusalTest {
             }
         }
         for (int what : new int[] {-1, 4, LOWEST, HIGHEST}) {
-            Twins.refuse("what " + what, Desks::busy, x -> x.diff(0, 1, what),
+            Twins.refuse("what " + what, Desks::busy, x -> x.diff(0, 3, what),
                     Expect.INDEX);
         }
     }

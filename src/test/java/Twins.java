@@ -6,6 +6,8 @@ import java.util.function.IntSupplier;
  * Two desks after the same calls. One of them is asked one thing more, which must change nothing;
  * then both are asked the same questions, and must answer alike. Each kind of question has twins of
  * its own, since the questions change what they ask about, and 512 calls are all that a desk has.
+ * Questions that are answered come before those that are refused: if a refused call did change
+ * something, one that both twins are asked would hide it.
  */
 final class Twins {
     interface Calls {
@@ -19,9 +21,10 @@ final class Twins {
     private static final Questions TROUBLE = Twins::askTrouble;
 
     private static final Questions[] ALL = {
-        TROUBLE, Twins::askFigures, Twins::askRoomOfSchema, Twins::askLeaves, Twins::askSets,
+        TROUBLE, Twins::askFigures, Twins::askRoomForLists, Twins::askRoomForLeaves,
+        Twins::askRoomForRules, Twins::askStandards, Twins::askValues, Twins::askSets,
         Twins::askDifferences, Twins::askCommits, Twins::askTicks, Twins::askLocks,
-        Twins::askOlder, Twins::askSaves, Twins::askEntries,
+        Twins::askOlder, Twins::askSaves, Twins::askFirstSaves, Twins::askEntries,
     };
 
     private Twins() {
@@ -108,34 +111,61 @@ final class Twins {
         note(answers, "cut(NONE)", () -> bit(x.cut(-1)));
     }
 
-    /** How many lists, leaves and rules may still come, and whether the empty set is good. */
-    private static void askRoomOfSchema(SettingsDesk x, List<String> answers) {
+    private static void askRoomForLists(SettingsDesk x, List<String> answers) {
+        for (int i = 0; i < 4; i++) {
+            note(answers, "list", x::list);
+        }
+        askReady(x, answers);
+    }
+
+    private static void askReady(SettingsDesk x, List<String> answers) {
+        note(answers, "ready", () -> bit(x.ready()));
+        note(answers, "begin", () -> x.begin(1));
+        note(answers, "begin", () -> x.begin(2));
+    }
+
+    private static void askRoomForLeaves(SettingsDesk x, List<String> answers) {
         for (int list = 0; list < 4; list++) {
             int of = list;
             for (int i = 0; i < 5; i++) {
                 note(answers, "leaf of " + list, () -> x.leaf(of, 0, 0, 0, 0));
             }
         }
-        for (int i = 0; i < 5; i++) {
-            note(answers, "rule", () -> x.rule(0, 0, 0, 0, true));
-            note(answers, "list", x::list);
-        }
-        note(answers, "ready", () -> bit(x.ready()));
-        note(answers, "begin", () -> x.begin(0));
+        askReady(x, answers);
     }
 
-    /** What the leaves of an empty entry of each list are, and which values they take. */
-    private static void askLeaves(SettingsDesk x, List<String> answers) {
-        note(answers, "ready", () -> bit(x.ready()));
-        note(answers, "begin", () -> x.begin(2));
+    private static void askRoomForRules(SettingsDesk x, List<String> answers) {
+        for (int i = 0; i < 5; i++) {
+            note(answers, "rule", () -> x.rule(0, 0, 0, 0, true));
+        }
+        askReady(x, answers);
+    }
+
+    /** What the leaves of an empty entry of each list are. */
+    private static void askStandards(SettingsDesk x, List<String> answers) {
+        askReady(x, answers);
+        for (int list = 1; list < 4; list++) {
+            int of = list;
+            note(answers, "entry", () -> bit(x.entry(2, of, 77, true)));
+            for (int leaf : new int[] {1, 0, 2, 3}) {
+                note(answers, "standard " + list + " " + leaf, () -> x.get(2, of, 77, leaf));
+            }
+            note(answers, "commit", () -> x.commit(2, 0));
+        }
+    }
+
+    /** Which values the leaves of each list take. */
+    private static void askValues(SettingsDesk x, List<String> answers) {
+        askReady(x, answers);
         for (int list = 0; list < 4; list++) {
             int of = list;
             int key = list == 0 ? 0 : 77;
-            note(answers, "entry", () -> bit(x.entry(2, of, key, true)));
+            if (list > 0) {
+                note(answers, "entry", () -> bit(x.entry(2, of, key, true)));
+            }
             for (int leaf = 0; leaf < 4; leaf++) {
                 int asked = leaf;
-                note(answers, "standard " + list + " " + leaf, () -> x.get(2, of, key, asked));
-                for (int value : new int[] {-6, -5, -1, 0, 1, 5, 6, 9, 10, 100, 101}) {
+                for (int value : new int[] {5, 1, 0, 9, 10, 6, -1, -5, -6, 100, 101}) {
                     note(answers, "set " + list + " " + leaf + " to " + value, () -> {
                         x.set(2, of, key, asked, value);
                         return 0;
@@ -183,16 +213,15 @@ final class Twins {
     /** A commit tells the base, too. */
     private static void askCommits(SettingsDesk x, List<String> answers) {
         note(answers, "confirm", () -> bit(x.confirm()));
-        for (int s = 0; s < 3; s++) {
-            int of = s;
-            note(answers, "lock", () -> bit(x.lock(of, false)));
-        }
-        for (int s = 2; s >= 0; s--) {
-            int of = s;
-            note(answers, "commit " + s, () -> x.commit(of, 0));
+        int[] sessions = {1, 0, 2};
+        for (int s : sessions) {
+            note(answers, "lock", () -> bit(x.lock(s, false)));
+            note(answers, "commit " + s, () -> x.commit(s, 0));
             note(answers, "changes", () -> x.figure(0));
-            askEntry(x, answers, 3, 0, 0);
-            askEntry(x, answers, 3, 1, 1);
+        }
+        for (int s : sessions) {
+            askEntry(x, answers, s, 1, 1);
+            askEntry(x, answers, s, 0, 0);
         }
         note(answers, "begun", () -> x.begin(0));
         askDifferences(x, answers);
@@ -220,11 +249,15 @@ final class Twins {
 
     private static void askOlder(SettingsDesk x, List<String> answers) {
         note(answers, "begin", () -> x.begin(2));
-        for (int n = -1; n <= 9; n++) {
+        for (int n = 1; n <= 3; n++) {
             int ago = n;
             note(answers, "rollback " + n, () -> x.rollback(2, ago));
-            askEntry(x, answers, 2, 0, 0);
+            note(answers, "an entry", () -> x.get(2, 1, 1, 0));
+        }
+        for (int n : new int[] {1, 2, 3, 4, 5, 6, 7, 8, 0, 9, -1}) {
+            note(answers, "rollback " + n, () -> x.rollback(2, n));
             askEntry(x, answers, 2, 1, 1);
+            askEntry(x, answers, 2, 0, 0);
             askEntry(x, answers, 2, 1, 2);
         }
     }
@@ -240,6 +273,11 @@ final class Twins {
         note(answers, "save", x::save);
         askFigures(x, answers);
         askSets(x, answers);
+    }
+
+    private static void askFirstSaves(SettingsDesk x, List<String> answers) {
+        askReady(x, answers);
+        askSaves(x, answers);
     }
 
     private static void askEntries(SettingsDesk x, List<String> answers) {
