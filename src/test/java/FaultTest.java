@@ -14,6 +14,7 @@ public final class FaultTest {
         firstRule();
         rulesOfOtherLists();
         uniqueLooksBefore();
+        nothingIsNotZero();
         referencesLookAnywhere();
         standardsCount();
         sevenEntries();
@@ -266,6 +267,37 @@ public final class FaultTest {
         trouble(x, 3, 1, 6, 0);
         x.unset(0, 1, 3, 0);
         Expect.same("one alone", x.commit(0, 0), DONE);
+    }
+
+    private static void nothingIsNotZero() {
+        Expect.about("Terms: a leaf that is nothing is not 0");
+        SettingsDesk x = new SettingsDesk();
+        x.list();
+        x.leaf(1, 0, 0, 9, 2);
+        x.leaf(1, 0, 0, 9, 0);
+        x.rule(1, 0, 0, 1, true);
+        x.ready();
+        x.begin(0);
+        for (int key = 1; key <= 3; key++) {
+            x.entry(0, 1, key, true);
+        }
+        Expect.same("no rule is broken by nothing", x.commit(0, 0), DONE);
+        x.set(0, 1, 2, 0, 0);
+        x.set(0, 1, 2, 1, 0);
+        Expect.same("unique, nothing before it and behind it", x.commit(0, 0), DONE);
+        x.set(0, 1, 1, 0, 5);
+        x.unset(0, 1, 1, 0);
+        x.set(0, 1, 3, 0, 0);
+        x.unset(0, 1, 3, 0);
+        Expect.same("not set any more", x.commit(0, 0), DONE);
+        x.set(0, 1, 3, 0, 0);
+        x.set(0, 1, 3, 1, 1);
+        Expect.same("0 in both", x.commit(0, 0), INVALID);
+        trouble(x, 3, 1, 3, 0);
+        x.unset(0, 1, 2, 0);
+        x.unset(0, 1, 3, 1);
+        Expect.same("a is 0, and b is nothing", x.commit(0, 0), INVALID);
+        trouble(x, 4, 1, 3, 0);
     }
 
     private static void referencesLookAnywhere() {

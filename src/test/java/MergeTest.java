@@ -21,6 +21,7 @@ public final class MergeTest {
     public static void main(String[] args) {
         oneEntry();
         theRoot();
+        amongOthers();
         twoLeaves();
         runningIsTheBase();
         awayAndThereAgain();
@@ -98,6 +99,67 @@ public final class MergeTest {
     private static void theRoot() {
         for (int leaf = 0; leaf < 4; leaf++) {
             allCases(0, 0, leaf, 1);
+        }
+    }
+
+    /**
+     * The entry is not the same one of its list, counted from the first, in the base, the candidate
+     * and the running set, as each has others before it that the two others have not.
+     */
+    private static void amongOthers() {
+        for (int others = 0; others < 27; others++) {
+            for (int b = 0; b < 4; b++) {
+                for (int c = 0; c < 4; c++) {
+                    for (int r = 0; r < 4; r++) {
+                        amongOthers("" + STATES.charAt(b) + STATES.charAt(c) + STATES.charAt(r),
+                                others % 3, others / 3 % 3, others / 9, OUTCOMES[b][c].charAt(r));
+                    }
+                }
+            }
+        }
+    }
+
+    private static void amongOthers(String states, int inBase, int inCandidate, int inRunning,
+            char due) {
+        Expect.about("Terms, merge of " + states + " behind " + inBase + ", " + inCandidate
+                + " and " + inRunning + " others");
+        SettingsDesk x = desk();
+        make(x, 0, 2, 70, 1, states.charAt(0));
+        others(x, 0, 10, inBase, true);
+        x.commit(0, 0);
+        x.begin(1);
+        make(x, 0, 2, 70, 1, states.charAt(2));
+        others(x, 0, 10, inBase, false);
+        others(x, 0, 30, inRunning, true);
+        x.commit(0, 0);
+        make(x, 1, 2, 70, 1, states.charAt(1));
+        others(x, 1, 10, inBase, false);
+        others(x, 1, 20, inCandidate, true);
+        if (due == 'E' || due == 'L') {
+            Expect.same("commit", x.commit(1, 0), CLASH);
+            trouble(x, 2, 70, due == 'E' ? NONE : 1);
+            return;
+        }
+        Expect.same("commit", x.commit(1, 0), DONE);
+        Expect.same("entries", x.figure(12), inCandidate + inRunning + (due == '-' ? 0 : 1));
+        Expect.same("the leaf", seen(x, 3, 2, 70, 1), due == '-' ? '.' : due);
+        Expect.same("the leaf before it", seen(x, 3, 2, 70, 0), '.');
+        Expect.same("the leaf behind it", seen(x, 3, 2, 70, 2), '.');
+        for (int i = 0; i < 2; i++) {
+            Expect.same("another one of its own", seen(x, 3, 2, 20 + i, 1),
+                    i < inCandidate ? '3' : '.');
+            Expect.same("another one of running", seen(x, 3, 2, 30 + i, 1),
+                    i < inRunning ? '3' : '.');
+        }
+    }
+
+    /** Entries of list 2 with leaves that are set otherwise than those of the entry behind them. */
+    private static void others(SettingsDesk x, int s, int firstKey, int count, boolean there) {
+        for (int key = firstKey; key < firstKey + count; key++) {
+            x.entry(s, 2, key, there);
+            for (int leaf = 0; leaf < 3 && there; leaf++) {
+                x.set(s, 2, key, leaf, 3);
+            }
         }
     }
 
